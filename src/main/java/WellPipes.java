@@ -960,14 +960,17 @@ public final class WellPipes {
      */
     private static final class Search {
         private static final int STRINGS = 390625, MOST_LEAST = 3, MOST_HEFT = 9, NO_STRING = -1;
-        private static final int STATES = (MOST_STEPS * MOST_HEFT + 1) * MOST_GRADES * MOST_LEAST;
+        private static final int HEFTS = MOST_STEPS * MOST_HEFT + 1;
 
         final int[] string = new int[MOST_STEPS];
         int cost;
         int heft;
         /** By state: COST times STRINGS, and the GRADES from the lowest STEP up as figures of base 5. */
-        private int[] below = new int[STATES];
-        private int[] above = new int[STATES];
+        private int[] below = new int[HEFTS * MOST_GRADES * MOST_LEAST];
+        private int[] above = new int[HEFTS * MOST_GRADES * MOST_LEAST];
+        /** By HEFT: the first of those whose SECTION on top is long enough. */
+        private int[] wholeBelow = new int[HEFTS];
+        private int[] wholeAbove = new int[HEFTS];
         private Well well;
         private int least;
 
@@ -975,17 +978,16 @@ public final class WellPipes {
         boolean find(Well in, int barred) {
             well = in;
             least = Math.max(1, Math.min(MOST_LEAST, in.rules[LEAST]));
-            Arrays.fill(string, BARE);
             Arrays.fill(above, NO_STRING);
-            for (int grade = 0; grade < in.grades; grade++) {
-                int pull = in.figure(grade, HEFT);
-                if (grade != barred && in.wouldHold(in.steps - 1, grade, pull)) {
-                    keep(pull, grade, 1, in.figure(grade, PRICE) * STRINGS + grade);
-                }
-            }
-            for (int step = in.steps - 2; step >= 0; step--) {
+            Arrays.fill(wholeAbove, NO_STRING);
+            wholeAbove[0] = 0;
+            for (int step = in.steps - 1; step >= 0; step--) {
                 swap();
-                climb(step, barred);
+                for (int grade = 0; grade < in.grades; grade++) {
+                    if (grade != barred) {
+                        layOnAll(step, grade);
+                    }
+                }
             }
             return choose();
         }
@@ -995,42 +997,46 @@ public final class WellPipes {
             below = above;
             above = done;
             Arrays.fill(above, NO_STRING);
+            done = wholeBelow;
+            wholeBelow = wholeAbove;
+            wholeAbove = done;
+            Arrays.fill(wholeAbove, NO_STRING);
         }
 
-        private void climb(int step, int barred) {
+        private void layOnAll(int step, int grade) {
             int laid = well.steps - 1 - step;
-            for (int grade = 0; grade < well.grades; grade++) {
-                int own = well.figure(grade, HEFT);
-                for (int under = laid; under <= laid * MOST_HEFT && grade != barred; under++) {
-                    if (!well.wouldHold(step, grade, under + own)) {
-                        // A GRADE bears no more at a greater PULL.
-                        break;
-                    }
-                    layUpon(under, grade);
+            int own = well.figure(grade, HEFT);
+            for (int under = laid; under <= laid * MOST_HEFT; under++) {
+                if (!well.wouldHold(step, grade, under + own)) {
+                    // A GRADE bears no more at a greater PULL.
+                    break;
+                }
+                // That the whole SECTION may be of the same GRADE does no harm: the string is SOUND, too.
+                layOn(wholeBelow[under], under, grade, 1);
+                for (int length = 1; length <= least; length++) {
+                    layOn(below[state(under, grade, length)], under, grade, Math.min(length + 1, least));
                 }
             }
         }
 
-        private void layUpon(int under, int grade) {
+        private void layOn(int value, int under, int grade, int length) {
+            if (value == NO_STRING) {
+                return;
+            }
             int pull = under + well.figure(grade, HEFT);
-            int price = well.figure(grade, PRICE);
-            for (int last = 0; last < well.grades; last++) {
-                for (int length = last == grade ? 1 : least; length <= least; length++) {
-                    int value = below[state(under, last, length)];
-                    if (value != NO_STRING) {
-                        int longer = last == grade ? Math.min(length + 1, least) : 1;
-                        int code = value % STRINGS * MOST_GRADES + grade;
-                        keep(pull, grade, longer, (value / STRINGS + price) * STRINGS + code);
-                    }
-                }
+            int code = value % STRINGS;
+            int next = value - code + well.figure(grade, PRICE) * STRINGS + code * MOST_GRADES + grade;
+            int state = state(pull, grade, length);
+            if (isAhead(next, above[state])) {
+                above[state] = next;
+            }
+            if (length == least && isAhead(next, wholeAbove[pull])) {
+                wholeAbove[pull] = next;
             }
         }
 
-        private void keep(int pull, int grade, int length, int value) {
-            int state = state(pull, grade, length);
-            if (above[state] == NO_STRING || value < above[state]) {
-                above[state] = value;
-            }
+        private static boolean isAhead(int value, int other) {
+            return other == NO_STRING || value < other;
         }
 
         private static int state(int pull, int grade, int length) {
@@ -1039,13 +1045,11 @@ public final class WellPipes {
 
         private boolean choose() {
             int chosen = NO_STRING;
-            for (int pull = 1; pull <= well.steps * MOST_HEFT; pull++) {
-                for (int grade = 0; grade < well.grades; grade++) {
-                    int value = above[state(pull, grade, least)];
-                    if (value != NO_STRING && isAhead(value, pull, chosen)) {
-                        chosen = value;
-                        heft = pull;
-                    }
+            for (int pull = 1; pull < HEFTS; pull++) {
+                int value = wholeAbove[pull];
+                if (value != NO_STRING && (chosen == NO_STRING || value / STRINGS < chosen / STRINGS)) {
+                    chosen = value;
+                    heft = pull;
                 }
             }
             if (chosen == NO_STRING) {
@@ -1056,16 +1060,10 @@ public final class WellPipes {
             return true;
         }
 
-        /** Whether it is ahead of the one chosen, whose HEFT is no greater. */
-        private boolean isAhead(int value, int pull, int chosen) {
-            if (chosen == NO_STRING) {
-                return true;
-            }
-            return pull == heft ? value < chosen : value / STRINGS < chosen / STRINGS;
-        }
-
+        /** The GRADE laid last, at the top STEP, is the lowest figure. */
         private void tellString(int code) {
             int rest = code;
+            Arrays.fill(string, BARE);
             for (int step = 0; step < well.steps; step++) {
                 string[step] = rest % MOST_GRADES;
                 rest /= MOST_GRADES;

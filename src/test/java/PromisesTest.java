@@ -18,6 +18,7 @@ public final class PromisesTest {
         well();
         faults();
         undo();
+        undoOfStrings();
         lay();
         layBest();
         rule();
@@ -262,6 +263,25 @@ public final class PromisesTest {
         is("9: none", x.undo(), STATE);
     }
 
+    private static void undoOfStrings() {
+        WellPipes x = Due.with("w8,1,0;g0,0;t9,9,99,1,9;t9,9,99,1,8;t9,9,99,1,7;t9,9,99,1,6;t9,9,99,1,5;");
+        int[] string = {4, -1, 3, 0, 2, 1, 4, 4};
+        Due.lay(x, string);
+        is("9: BEST is laid", x.layBest(), 40);
+        is("9: BEST is undone", x.undo(), 7);
+        for (int step = 0; step < 8; step++) {
+            is("9: STEP " + step + " is as it was", x.step(step, 0), string[step]);
+        }
+        for (int i = 0; i < 26; i++) {
+            x.price(0, 50 + i);
+            x.lay(1, i % 2 == 0 ? 0 : -1);
+        }
+        for (int left = 23; left >= 0; left--) {
+            is("9: of two sorts by turns", x.undo(), left);
+            is("9: PRICE or GRADE", x.grade(0, 4), left % 2 == 1 ? 75 - (23 - left) / 2 : 75 - (24 - left) / 2);
+        }
+    }
+
     private static void lay() {
         WellPipes x = Due.with(FIVE);
         is("10: STEP below", x.lay(-1, 0), BAD);
@@ -318,11 +338,12 @@ public final class PromisesTest {
         is("13: what it was", x.price(4, 99), 60);
         is("13: what it is", x.grade(4, 4), 99);
         is("13: others stay", x.grade(3, 4), 25);
+        is("13: PRICE 1", x.price(4, 1), 99);
         is("13: GRADE", x.price(5, 1), BAD);
         is("13: GRADE", x.price(-1, 1), BAD);
         is("13: PRICE", x.price(0, 0), BAD);
         is("13: PRICE", x.price(0, 100), BAD);
-        is("13: ACTS", x.count(5), 1);
+        is("13: ACTS", x.count(5), 2);
     }
 
     private static void grade() {
@@ -466,7 +487,7 @@ public final class PromisesTest {
         is("20: MUD, but gas is too great", x.most(0), NONE);
         x.lay(0, 2);
         is("20: TOP, but PULL is too great", x.most(1), NONE);
-        WellPipes y = Due.with("w2,1,5;g40,10;t99,99,20,4,7;");
+        WellPipes y = Due.with("w2,1,5;g40,10;l99,99,20,4,7;");
         Due.lay(y, 0, 0);
         is("20: MUD is 40 at most", y.most(0), 40);
         is("20: TOP is 99 at most", y.most(1), 99);
@@ -538,7 +559,7 @@ public final class PromisesTest {
         for (int n = 0; n < 5; n++) {
             is("24: turns of " + n, x.byTurns(n), due[n]);
         }
-        is("24: n", x.byTurns(5), BAD);
+        is("24: n", Due.with("w8,1,0;g0,0;t9,9,99,1,1;").byTurns(5), BAD);
         is("24: n", x.byTurns(-1), BAD);
         Due.lay(x, 0, 1, 0, 1);
         is("24: whatever is laid", x.byTurns(4), 26);
