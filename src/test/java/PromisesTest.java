@@ -454,6 +454,8 @@ public final class PromisesTest {
         bestIs("w3,2,0;g20,9;t20,9,99,2,5;t11,9,99,2,3;", 15, 6, 0, 0, 0);
         bestIs("w5,2,0;g20,9;t20,9,99,2,5;t11,9,99,2,3;", 19, 10, 0, 0, 1, 1, 1);
         bestIs("w8,3,0;g20,1;t20,9,99,9,99;t14,9,99,9,99;", 792, 72, 0, 0, 0, 0, 0, 0, 0, 0);
+        String strong = "t9,9,99,9,99;";
+        bestIs("w8,3,0;g0,0;" + strong.repeat(4) + "l9,9,99,9,98;", 784, 72, 4, 4, 4, 4, 4, 4, 4, 4);
         bestIs("w2,3,0;g0,0;t9,9,99,2,3;", NONE, NONE, NONE, NONE);
         bestIs("w2,1,0;g10,0;t9,9,99,2,3;", NONE, NONE, NONE, NONE);
         WellPipes x = Due.with(TWO);
