@@ -129,6 +129,7 @@ final class ForetoldEdges extends Edges {
         x.is("share(0, 10)", 1).is("share(1, 10)", 9).is("share(0, 990)", 99).is("share(1, 990)", 891);
         x.is("share(0, 999)", 100).is("share(1, 999)", 899).is("share(0, 9)", 1).is("share(1, 9)", 8);
         with("w8,1,0;g0,0;t9,9,99,9,1;").make("lay(7, 0)").is("share(7, 999)", 999).is("share(0, 999)", 0);
+        with("w8,1,0;g0,0;t9,9,99,1,1;").make("lay(0, 0)").is("share(0, 999)", 999).is("share(7, 999)", 0);
     }
 
     private void shareOver() {
@@ -205,6 +206,11 @@ final class ForetoldEdges extends Edges {
         with("w2,1,0;g19,0;p9,9,99,1,1;").make("row(0, 0, 2)").is("who(0, 0, 0, 0)", 32);
         with("w2,1,20;g0,0;p9,40,2,1,1;").make("row(0, 0, 2)").is("who(0, 0, 0, 0)", 16 + 32);
         with("w2,1,10;g0,0;p9,25,2,1,1;").make("row(0, 0, 2)").is("who(0, 0, 0, 0)", 4 + 16 + 32);
+        // each KIND, each LEAST by itself: all else is as it stands now, whatever was supposed before
+        Run v = with("w2,1,0;g0,0;p9,9,99,1,10;b9,9,10,9,3;").make("row(0, 0, 2)").is("who(1, 0, 0, 0)", 8);
+        v.is("who(0, 0, 0, 0)", 62).is("who(0, 1, 0, 0)", 6).make("price(1, 99)").is("who(1, 0, 0, 0)", 62);
+        v.make("rule(1, 11)").is("who(0, 0, 0, 0)", 32).make("rule(3, 3)").is("who(0, 0, 0, 0)", 0);
+        v.make("drawn(60, 7, 0)", "most(0)").is("who(0, 1, 0, 0)", 0).make("undo()", "undo()").is("who(0, 1, 0, 0)", 6);
         // there is none by any
         Run z = with("w2,3,0;g0,0;t9,9,1,1,1;").make("row(0, 0, 2)");
         z.is("who(0, 0, 0, 0)", 0).is("who(0, 1, 0, 0)", 0);

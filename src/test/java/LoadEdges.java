@@ -243,11 +243,29 @@ final class LoadEdges extends Edges {
         }
         x.is("undo()", 1).each("step(#, 0)", 0, -1, 1).is("grade(0, 4)", 50);
         x.is("undo()", 0).is("grade(0, 4)", 1).each("step(#, 0)", 0, -1, 1).is("undo()", STATE);
+        actsOfAllSorts();
         // what is undone makes room
         for (int i = 1; i <= 24; i++) {
             x.make("rule(2, " + (i % 2) + ")");
         }
         x.is("count(5)", 24).is("undo()", 23).make("rule(2, 7)").is("count(5)", 24).is("undo()", 23).is("stand(4)", 1);
+    }
+
+    /** 30 ACTS, by turns of four sorts: the six oldest are forgotten, each other one is undone as what it was. */
+    private void actsOfAllSorts() {
+        Run x = with("w8,1,0;g0,0;t9,9,99,1,1;t9,9,99,1,2;");
+        for (int i = 0; i < 30; i++) {
+            int v = 1 + i / 4;
+            String[] sorts = {"rule(0, " + v + ")", "price(1, " + 10 * v + ")", "lay(7, " + v % 2 + ")", "rule(2, " + v + ")"};
+            x.make(sorts[i % 4]);
+        }
+        for (int left = 23; left >= 0; left--) {
+            // as many ACTS are not undone, the forgotten ones with them
+            int acts = left + 6;
+            x.is("undo()", left).is("stand(2)", (acts + 3) / 4).is("grade(1, 4)", 10 * ((acts + 2) / 4));
+            x.is("step(7, 0)", (acts + 1) / 4 % 2).is("stand(4)", acts / 4);
+        }
+        x.is("undo()", STATE);
     }
 
     private void actsUndone() {
@@ -258,6 +276,7 @@ final class LoadEdges extends Edges {
         x.is("lay(0, -1)", 4).is("undo()", 7).is("step(0, 0)", 4);
         x.is("lay(7, 4)", -1).is("undo()", 7).is("step(7, 0)", -1);
         x.is("lay(1, 4)", 3).is("undo()", 7).is("step(1, 0)", 3);
+        x.make("lay(7, 2)").is("lay(0, 0)", 4).is("undo()", 8).is("step(7, 0)", 2).is("undo()", 7);
         x.is("layBest()", 8).is("count(5)", 8).each("step(#, 0)", 0, 0, 0, 0, 0, 0, 0, 0, 0);
         x.is("undo()", 7).each("step(#, 0)", 0, 4, 3, 2, 1, 0, 4, 4, -1);
         x.is("rule(0, 20)", 1).is("rule(1, 99)", 2).is("rule(2, 20)", 3).is("rule(3, 3)", 1).is("price(4, 99)", 5);

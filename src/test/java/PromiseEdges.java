@@ -171,6 +171,8 @@ final class PromiseEdges extends Edges {
         Run x = with(TWO).is("layBest()", 6).each("step(#, 0)", 0, 1, 1).is("count(5)", 1).is("stand(5)", 6);
         x.make("lay(0, 0)", "rule(3, 3)").is("layBest()", NONE).is("count(5)", 3).each("step(#, 0)", 0, 0, 1);
         x.make("rule(3, 2)").is("layBest()", 6).is("count(5)", 5).is("undo()", 4).each("step(#, 0)", 0, 0, 1);
+        // BEST that is laid already is laid again
+        x.make("rule(3, 1)").is("layBest()", 6).is("layBest()", 6).is("count(5)", 7).is("undo()", 6).is("stand(5)", 6);
         // no ACT when 24 are kept: none is forgotten
         Run y = with("w2,3,0;g0,0;t9,9,99,1,10;");
         for (int i = 1; i <= 24; i++) {
@@ -190,6 +192,8 @@ final class PromiseEdges extends Edges {
         x.is("rule(0, 0)", 7).is("rule(0, 20)", 0).is("stand(2)", 20).is("rule(1, 0)", 8).is("rule(1, 99)", 0);
         x.is("stand(3)", 99).is("rule(2, 0)", 9).is("rule(2, 20)", 0).is("stand(4)", 20).is("rule(3, 1)", 2);
         x.is("rule(3, 3)", 1).is("stand(1)", 3).is("count(5)", 8);
+        // what it is already is not refused, as it is for lay(), and is an ACT as well
+        x.is("rule(3, 3)", 3).is("count(5)", 9).is("undo()", 8).is("stand(1)", 3);
         refused(BAD, "rule(-1, 1)", "rule(4, 1)", "rule(MIN, 1)", "rule(MAX, 1)", "rule(0, -1)", "rule(0, 21)",
             "rule(1, -1)", "rule(1, 100)", "rule(2, -1)", "rule(2, 21)", "rule(3, 0)", "rule(3, 4)");
         refused(BAD, "rule(0, MIN)", "rule(0, MAX)", "rule(1, MIN)", "rule(1, MAX)", "rule(3, MIN)", "rule(3, MAX)");
@@ -200,6 +204,7 @@ final class PromiseEdges extends Edges {
         says("PRICE of a GRADE (1 to 99): what it was. BAD.");
         Run x = with(TWO).is("price(0, 1)", 10).is("price(0, 99)", 1).is("grade(0, 4)", 99).is("price(1, 2)", 3);
         x.is("grade(0, 4)", 99).is("grade(1, 4)", 2).is("grade(1, 3)", 9).is("count(5)", 3);
+        x.is("price(1, 2)", 2).is("count(5)", 4).is("undo()", 3).is("grade(1, 4)", 2);
         refused(BAD, "price(-1, 1)", "price(3, 1)", "price(MIN, 1)", "price(MAX, 1)", "price(4, 1)");
         refused(BAD, "price(0, 0)", "price(0, 100)", "price(0, MIN)", "price(0, MAX)", "price(0, -1)");
         refusedWithoutWell(BAD, "price(0, 1)", "price(-1, 0)");

@@ -1,13 +1,15 @@
 import java.util.Random;
 
-/** Runs of 512 calls each, drawn by fixed seeds, on the class and on the plain model side by side. */
+/** Runs of up to 512 calls each, drawn by fixed seeds, on the class and on the plain model side by side. */
 public final class RandomRunsTest {
-    private static final int RUNS = 600, CALLS = 512;
+    /** One turn makes no more calls than a text has bytes, and two; what is called behind 512 is free. */
+    private static final int RUNS = 800, CALLS = 512, MOST_OF_A_TURN = 132;
     private static final Due DUE = new Due();
     private static Random draw;
     private static WellPipes x;
     private static PlainModel m;
     private static StringBuilder told;
+    private static int calls;
 
     public static void main(String[] args) {
         int runs = args.length > 0 ? Integer.parseInt(args[0]) : RUNS;
@@ -16,9 +18,10 @@ public final class RandomRunsTest {
             x = new WellPipes();
             m = new PlainModel();
             told = new StringBuilder("run " + run + ":");
-            int calls = 0;
-            while (calls < CALLS && !DUE.anyWrong()) {
-                calls += draw.nextInt(120) == 0 || calls == 0 ? tell() : one();
+            calls = 0;
+            while (calls <= CALLS - MOST_OF_A_TURN && !DUE.anyWrong()) {
+                if (calls == 0 || draw.nextInt(120) == 0) tell();
+                else one();
             }
         }
         DUE.end();
@@ -36,6 +39,7 @@ public final class RandomRunsTest {
     }
 
     private static void due(String call, long got, long want) {
+        calls++;
         told.append(' ').append(call);
         if (got != want) {
             DUE.is(told.toString(), got, want);
@@ -78,20 +82,18 @@ public final class RandomRunsTest {
         return b.toString();
     }
 
-    private static int tell() {
+    private static void tell() {
         String text = text();
         if (draw.nextInt(3) == 0) text = spoilt(text);
-        int calls = 0;
-        for (int i = 0; i < text.length(); i++, calls++) {
+        for (int i = 0; i < text.length(); i++) {
             int c = text.charAt(i);
             due("feed(" + c + ")", x.feed(c), m.feed(c));
         }
         due("well()", x.well(), m.well());
         due("fault()", x.fault(), m.fault());
-        return calls + 2;
     }
 
-    private static int one() {
+    private static void one() {
         int s = near(0, 7), g = near(0, 4), w = 0, v = 0, r = near(0, 2);
         if (m.hole != null && draw.nextInt(5) != 0) { s = draw.nextInt(m.hole.steps); g = draw.nextInt(m.hole.grades.size()); }
         switch (draw.nextInt(40)) {
@@ -133,7 +135,6 @@ public final class RandomRunsTest {
             case 38 -> { v = near(0, 6); due("count(" + v + ")", x.count(v), m.count(v)); }
             default -> due("status()", x.status(), m.status());
         }
-        return 1;
     }
 
     private static int somePrice() {

@@ -206,6 +206,9 @@ final class TextEdges extends Edges {
             int whole = (cut - 15) / 15;
             boolean ends = cut >= 30 && cut % 15 == 0;
             reads(most.substring(0, cut), ends ? whole : -1000100 - cut, ends ? 0 : 1);
+            // the end is the end, though a longer text was on the tape before
+            Run x = with(most).feed(most.substring(0, cut));
+            is("well() of " + most.substring(0, cut) + " behind more", x.ask("well()"), ends ? whole : -1000100 - cut);
         }
         fails("w123", 1, 1);
         fails("w1234567890", 1, 1);
